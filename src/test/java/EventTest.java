@@ -8,17 +8,21 @@ public final class EventTest {
         planningIsByTooth();
         gapIsPlannedAtTheLastTooth();
         chartsAreReadWhereTheEngineStands();
+        chartOfTheFastestWheel();
         amountIsWarmed();
         noFuelNoOpening();
         openWhileOpen();
         chargeWhileOn();
         fireWithoutCharge();
         cutAndFireAtOneTime();
+        orderOfPlanning();
+        plannedAgainIsPlannedLast();
         planningReplaces();
         limitOfSpeed();
         limitWithCode();
         limitWhenHot();
         ceasingSwitchesOff();
+        nothingStaysAfterCeasing();
         ceasingAtStalling();
         eventsAtStalling();
         eventsGoOnWithoutTurn();
@@ -156,11 +160,12 @@ public final class EventTest {
 
     /** Speed 200000 / u is x, 7 * L / 4 is y. */
     private static void chartsAreReadWhereTheEngineStands() {
-        int[][] cases = {{640, 512}, {640, 600}, {200, 900}, {150, 16}, {112, 1007}, {111, 333}, {101, 512}};
+        int[][] cases = {{640, 512}, {640, 600}, {200, 900}, {163, 512}, {150, 16}, {112, 1007}, {111, 333},
+            {101, 512}};
         for (int[] c : cases) {
             ToothWheelTimer x = new ToothWheelTimer(12, 1, 1, 100000);
             for (int p = 0; p < 64; p++) {
-                x.set(1, p / 8, p % 8, 1 + 7 * (p / 8) * (p / 8) + 5 * (p % 8));
+                x.set(1, p / 8, p % 8, 100 + (p / 8 % 2) * 256 + 5 * (p % 8));
             }
             x.sample(0, c[1]);
             x.sample(1, 300);
@@ -173,6 +178,19 @@ public final class EventTest {
             x.rest(fuel);
             due.same("unit " + c[0] + ", load " + c[1], x.output(0), closed(start + fuel, 0));
         }
+    }
+
+    private static void chartOfTheFastestWheel() {
+        ToothWheelTimer x = new ToothWheelTimer(12, 2, 1, 1);
+        for (int p = 48; p < 64; p++) {
+            x.set(0, p / 8, p % 8, 1);
+        }
+        Engine.lockWithTurn(x, 12, 1);
+        x.teeth(9, 1);
+        // only with the advance of 1 is the FIRE at 768 due within 192 of the last tooth
+        due.same("FIRE waits", x.waiting(), 1);
+        x.rest(2);
+        due.same("FIRE waits no more", x.waiting(), 0);
     }
 
     private static void amountIsWarmed() {
@@ -272,6 +290,55 @@ public final class EventTest {
         y.teeth(5, 640);
         tallies("CUT was planned first", y, 0, 1, 2, 0);
         due.same("nothing waits", y.waiting(), 0);
+    }
+
+    private static void orderOfPlanning() {
+        // FIRE of cylinder 0 and CHARGE of cylinder 1 are due at one angle: cylinder 0 is planned first
+        ToothWheelTimer x = new ToothWheelTimer(12, 3, 8, 100000);
+        Engine.level(x, 0, 40);
+        Engine.lockWithTurn(x, 12, 640);
+        Engine.turnRound(x, 12, 640);
+        Engine.turnRound(x, 12, 640);
+        long time = 10241 + 2 * 7680 - 400;
+        outputs("FIRE 0, then CHARGE 1", x, on(time, 1), off(time, 0));
+        // OPEN of cylinder 0 and FIRE of cylinder 1 at one angle
+        ToothWheelTimer y = timer(2, 1, 100000, 0, 10);
+        Engine.lockWithTurn(y, 12, 640);
+        Engine.turnRound(y, 12, 640);
+        outputs("OPEN 0, then FIRE 1", y, off(17921, 1), opened(17921, 0));
+        // CHARGE, FIRE and OPEN of one cylinder: an earlier time goes before an earlier planning
+        ToothWheelTimer z = timer(2, 1, 100000, 32, 10);
+        Engine.lockWithTurn(z, 12, 640);
+        Engine.turnRound(z, 12, 640);
+        outputs("CHARGE 1, FIRE 1, OPEN 0", z, opened(17921, 0), off(17921 - 320, 1), on(17921 - 960, 1));
+    }
+
+    /** FIRE 1 and CHARGE 3 wait for one time; FIRE 1 is planned again for that time, and so goes behind. */
+    private static void plannedAgainIsPlannedLast() {
+        for (int again = 0; again < 2; again++) {
+            ToothWheelTimer x = new ToothWheelTimer(12, 6, 8, 100000);
+            x.sample(0, 0);
+            x.sample(0, 0);
+            x.sample(0, 0);
+            Engine.level(x, 0, 1);
+            Engine.lockWithTurn(x, 12, 256);
+            Engine.turnRound(x, 12, 256);
+            Engine.turnRound(x, 12, 256);
+            x.teeth(3, 256);
+            due.same("coil 1 is on", x.running() & 2, 2);
+            long time = x.foretell(192) + 252;
+            if (again == 1) {
+                // below the limit of 200 CHARGE is not planned; 192 + 20 * 192 / 64 = 252
+                Engine.level(x, 0, 1536 - 20);
+                x.edge(192);
+            }
+            due.same("rest", x.rest(again == 1 ? 60 : 252), 2);
+            if (again == 1) {
+                outputs("CHARGE 3, then FIRE 1", x, off(time, 1), on(time, 3));
+            } else {
+                outputs("FIRE 1, then CHARGE 3", x, on(time, 3), off(time, 1));
+            }
+        }
     }
 
     /** An event planned anew for another time fires only then. */
@@ -397,6 +464,31 @@ public final class EventTest {
         due.same("running()", z.running(), 0);
         due.same("waiting()", z.waiting(), 0);
         due.same("tally(3)", z.tally(3), 1);
+    }
+
+    /** After it has ceased to be LOCKED, all goes as with a new timer. */
+    private static void nothingStaysAfterCeasing() {
+        ToothWheelTimer x = busy();
+        x.edge(320);
+        ToothWheelTimer y = new ToothWheelTimer(12, 6, 8, 100000);
+        Engine.level(y, 1, 5000);
+        x.edge(1);
+        x.rest(5);
+        Engine.lockWithTurn(x, 12, 640);
+        Engine.lockWithTurn(y, 12, 640);
+        long later = (x.foretell(0) - y.foretell(0)) * 32;
+        for (int i = 0; i < 3; i++) {
+            Engine.turnRound(x, 12, 640);
+            Engine.turnRound(y, 12, 640);
+            x.cam();
+            y.cam();
+            due.same("waiting()", x.waiting(), y.waiting());
+            due.same("running()", x.running(), y.running());
+            int n = Math.min(16, y.tally(2));
+            for (int k = 0; k < n; k++) {
+                due.same("output(" + k + ") as of a new timer", x.output(k), y.output(k) + later);
+            }
+        }
     }
 
     private static void ceasingAtStalling() {
