@@ -32,36 +32,6 @@ public final class EventTest {
         due.end();
     }
 
-    private static long on(long time, int cylinder) {
-        return Engine.switching(time, false, cylinder, true);
-    }
-
-    private static long off(long time, int cylinder) {
-        return Engine.switching(time, false, cylinder, false);
-    }
-
-    private static long opened(long time, int cylinder) {
-        return Engine.switching(time, true, cylinder, true);
-    }
-
-    private static long closed(long time, int cylinder) {
-        return Engine.switching(time, true, cylinder, false);
-    }
-
-    /** The outputs, latest first. */
-    private static void outputs(String name, ToothWheelTimer x, long... want) {
-        for (int k = 0; k < want.length; k++) {
-            due.same(name + ": output(" + k + ")", x.output(k), want[k]);
-        }
-    }
-
-    private static void tallies(String name, ToothWheelTimer x, int sparks, int cuts, int switchings, int unlocked) {
-        due.same(name + ": tally(0)", x.tally(0), sparks);
-        due.same(name + ": tally(1)", x.tally(1), cuts);
-        due.same(name + ": tally(2)", x.tally(2), switchings);
-        due.same(name + ": tally(3)", x.tally(3), unlocked);
-    }
-
     private static ToothWheelTimer timer(int cylinders, int charge, int dwell, int lead, int fuel) {
         ToothWheelTimer x = new ToothWheelTimer(12, cylinders, charge, dwell);
         Engine.level(x, 0, lead);
@@ -74,15 +44,15 @@ public final class EventTest {
     private static void oneCylinder() {
         ToothWheelTimer x = timer(1, 2, 100000, 0, 100);
         Engine.lockWithTurn(x, 12, 640);
-        tallies("locked", x, 0, 0, 0, 0);
+        due.tallies("locked", x, 0, 0, 0, 0);
         due.same("waiting() before any planning", x.waiting(), 0);
         Engine.turnRound(x, 12, 640);
-        outputs("at half the cycle", x, opened(17921, 0), -1);
+        due.outputs("at half the cycle", x, Engine.opened(17921, 0), -1);
         due.same("running()", x.running(), 256);
         due.same("waiting() for CLOSE", x.waiting(), 1);
         due.same("rest(100)", x.rest(100), 0);
         due.same("rest(1)", x.rest(1), 1);
-        outputs("closed", x, closed(18022, 0), opened(17921, 0), -1);
+        due.outputs("closed", x, Engine.closed(18022, 0), Engine.opened(17921, 0), -1);
         due.same("waiting()", x.waiting(), 0);
         x.edge(539);
         x.teeth(8, 640);
@@ -90,14 +60,14 @@ public final class EventTest {
         due.same("waiting() for CHARGE", x.waiting(), 1);
         due.same("rest up to the charge", x.rest(639), 0);
         due.same("rest to the charge", x.rest(1), 1);
-        outputs("coil on", x, on(24321, 0));
+        due.outputs("coil on", x, Engine.on(24321, 0));
         due.same("running()", x.running(), 1);
         due.same("waiting() for CUT", x.waiting(), 1);
         x.edge(1280);
-        outputs("spark", x, off(25601, 0), on(24321, 0), closed(18022, 0));
+        due.outputs("spark", x, Engine.off(25601, 0), Engine.on(24321, 0), Engine.closed(18022, 0));
         due.same("running()", x.running(), 0);
         due.same("waiting() without CUT", x.waiting(), 0);
-        tallies("after a cycle", x, 1, 0, 4, 0);
+        due.tallies("after a cycle", x, 1, 0, 4, 0);
     }
 
     private static void advanceMovesChargeAndSpark() {
@@ -105,17 +75,17 @@ public final class EventTest {
         Engine.lockWithTurn(x, 12, 640);
         // cylinder 1 is due at 768 - 100 = 668 and is charged at 604: tooth 9 (576) and its gap
         Engine.turnRound(x, 12, 640);
-        outputs("cylinder 1", x, off(10241 + 6680, 1), on(10241 + 6040, 1), -1);
+        due.outputs("cylinder 1", x, Engine.off(10241 + 6680, 1), Engine.on(10241 + 6040, 1), -1);
         // cylinder 0 is due at 1536 - 100 = 1436 and is charged at 1372
         Engine.turnRound(x, 12, 640);
-        outputs("cylinder 0", x, off(10241 + 14360, 0), on(10241 + 13720, 0), off(10241 + 6680, 1));
-        tallies("two sparks", x, 2, 0, 4, 0);
+        due.outputs("cylinder 0", x, Engine.off(10241 + 14360, 0), Engine.on(10241 + 13720, 0), Engine.off(10241 + 6680, 1));
+        due.tallies("two sparks", x, 2, 0, 4, 0);
         // an advance beyond the cycle: 1536 - 2047 is 1025 before the angle 0 mod 1536
         ToothWheelTimer y = timer(1, 1, 100000, 2047, 0);
         Engine.lockWithTurn(y, 12, 640);
         Engine.turnRound(y, 12, 640);
         Engine.turnRound(y, 12, 640);
-        outputs("advance of 2047", y, off(10241 + 10250, 0), on(10241 + 9610, 0), -1);
+        due.outputs("advance of 2047", y, Engine.off(10241 + 10250, 0), Engine.on(10241 + 9610, 0), -1);
     }
 
     /** A tooth plans what is due up to the next one, and not what is due just there. */
@@ -129,21 +99,21 @@ public final class EventTest {
         due.same("waiting() at tooth 5", x.waiting(), 1);
         due.same("rest(629)", x.rest(629), 0);
         due.same("rest(1)", x.rest(1), 1);
-        outputs("63 steps", x, on(10241 + 3830, 1));
+        due.outputs("63 steps", x, Engine.on(10241 + 3830, 1));
         ToothWheelTimer y = timer(2, 6, 100000, 0, 0);
         // 384 is 64 steps after tooth 5: not planned there but at tooth 6, whose time it is
         Engine.lockWithTurn(y, 12, 640);
         y.teeth(5, 640);
         due.same("64 steps: waiting() at tooth 5", y.waiting(), 0);
         y.edge(600);
-        outputs("64 steps: at the edge", y, on(10241 + 3800, 1), -1);
+        due.outputs("64 steps: at the edge", y, Engine.on(10241 + 3800, 1), -1);
         // 63 * 101 / 64 is 99.4
         ToothWheelTimer z = timer(2, 6, 100000, 1, 0);
         Engine.lockWithTurn(z, 12, 101);
         z.teeth(5, 101);
         long edge = z.foretell(320);
         z.rest(99);
-        outputs("rounded down", z, on(edge + 99, 1), -1);
+        due.outputs("rounded down", z, Engine.on(edge + 99, 1), -1);
     }
 
     private static void gapIsPlannedAtTheLastTooth() {
@@ -174,9 +144,9 @@ public final class EventTest {
             Engine.lockWithTurn(x, 12, c[0]);
             Engine.turnRound(x, 12, c[0]);
             long start = x.foretell(768);
-            due.same("opened", x.output(0), opened(start, 0));
+            due.same("opened", x.output(0), Engine.opened(start, 0));
             x.rest(fuel);
-            due.same("unit " + c[0] + ", load " + c[1], x.output(0), closed(start + fuel, 0));
+            due.same("unit " + c[0] + ", load " + c[1], x.output(0), Engine.closed(start + fuel, 0));
         }
     }
 
@@ -203,13 +173,13 @@ public final class EventTest {
             Engine.lockWithTurn(x, 12, 640);
             Engine.turnRound(x, 12, 640);
             x.rest(c[1]);
-            due.same("amount with sample " + c[0], x.output(0), closed(17921 + c[1], 0));
+            due.same("amount with sample " + c[0], x.output(0), Engine.closed(17921 + c[1], 0));
         }
         ToothWheelTimer y = timer(1, 1, 100000, 0, 99);
         Engine.lockWithTurn(y, 12, 640);
         Engine.turnRound(y, 12, 640);
         y.rest(99);
-        due.same("99 * 101 / 100 is rounded down", y.output(0), closed(17921 + 99, 0));
+        due.same("99 * 101 / 100 is rounded down", y.output(0), Engine.closed(17921 + 99, 0));
     }
 
     private static void noFuelNoOpening() {
@@ -231,7 +201,7 @@ public final class EventTest {
         x.cam();
         Engine.turnRound(x, 12, 640);
         due.same("open still", x.running(), 256);
-        tallies("coil on and cut in between", x, 0, 1, 3, 0);
+        due.tallies("coil on and cut in between", x, 0, 1, 3, 0);
         long close = 17921 + 32320;
         Engine.turnRound(x, 12, 640);
         x.cam();
@@ -239,7 +209,7 @@ public final class EventTest {
         Engine.turnRound(x, 12, 640);
         x.teeth(3, 640);
         due.same("closed", x.running() & 256, 0);
-        due.same("when", x.output(0), closed(close, 0));
+        due.same("when", x.output(0), Engine.closed(close, 0));
     }
 
     /** A slower wheel brings the CHARGE again though the coil is on: neither a switching nor a later CUT. */
@@ -249,18 +219,18 @@ public final class EventTest {
         Engine.lockWithTurn(x, 12, 640);
         x.teeth(6, 640);
         long start = x.foretell(384);
-        outputs("on at tooth 6", x, on(start, 1));
+        due.outputs("on at tooth 6", x, Engine.on(start, 1));
         Engine.level(x, 0, 1472);
         // CHARGE is now due at 768 - 1472 - 384 = 448 (mod 1536), tooth 7, and FIRE at 832
         x.edge(640);
-        outputs("nothing at tooth 7", x, on(start, 1), -1);
+        due.outputs("nothing at tooth 7", x, Engine.on(start, 1), -1);
         due.same("CUT waits", x.waiting(), 1);
         x.teeth(2, 640);
         due.same("on still", x.running(), 2);
         due.same("rest before the cut", x.rest(3000 - 3 * 640 - 1), 0);
         due.same("rest to the cut", x.rest(1), 1);
-        outputs("cut at its first time", x, off(start + 3000, 1), on(start, 1), -1);
-        tallies("cut", x, 0, 1, 2, 0);
+        due.outputs("cut at its first time", x, Engine.off(start + 3000, 1), Engine.on(start, 1), -1);
+        due.tallies("cut", x, 0, 1, 2, 0);
     }
 
     private static void fireWithoutCharge() {
@@ -269,7 +239,7 @@ public final class EventTest {
         Engine.turnRound(x, 12, 640);
         Engine.turnRound(x, 12, 640);
         // cut 10 after the charge; the FIRE that comes later finds the coil off
-        tallies("no spark after a cut", x, 0, 1, 2, 0);
+        due.tallies("no spark after a cut", x, 0, 1, 2, 0);
         due.same("waiting()", x.waiting(), 0);
         due.same("running()", x.running(), 0);
     }
@@ -281,14 +251,14 @@ public final class EventTest {
         Engine.level(x, 0, 64);
         Engine.lockWithTurn(x, 12, 640);
         Engine.turnRound(x, 12, 640);
-        tallies("FIRE was planned first", x, 1, 0, 2, 0);
-        outputs("FIRE was planned first", x, off(10241 + 7040, 1), on(10241 + 6400, 1), -1);
+        due.tallies("FIRE was planned first", x, 1, 0, 2, 0);
+        due.outputs("FIRE was planned first", x, Engine.off(10241 + 7040, 1), Engine.on(10241 + 6400, 1), -1);
         ToothWheelTimer y = new ToothWheelTimer(12, 2, 1, 640);
         // CHARGE at tooth 4, FIRE at tooth 5: CUT has been planned a tooth earlier
         Engine.level(y, 0, 448);
         Engine.lockWithTurn(y, 12, 640);
         y.teeth(5, 640);
-        tallies("CUT was planned first", y, 0, 1, 2, 0);
+        due.tallies("CUT was planned first", y, 0, 1, 2, 0);
         due.same("nothing waits", y.waiting(), 0);
     }
 
@@ -300,17 +270,17 @@ public final class EventTest {
         Engine.turnRound(x, 12, 640);
         Engine.turnRound(x, 12, 640);
         long time = 10241 + 2 * 7680 - 400;
-        outputs("FIRE 0, then CHARGE 1", x, on(time, 1), off(time, 0));
+        due.outputs("FIRE 0, then CHARGE 1", x, Engine.on(time, 1), Engine.off(time, 0));
         // OPEN of cylinder 0 and FIRE of cylinder 1 at one angle
         ToothWheelTimer y = timer(2, 1, 100000, 0, 10);
         Engine.lockWithTurn(y, 12, 640);
         Engine.turnRound(y, 12, 640);
-        outputs("OPEN 0, then FIRE 1", y, off(17921, 1), opened(17921, 0));
+        due.outputs("OPEN 0, then FIRE 1", y, Engine.off(17921, 1), Engine.opened(17921, 0));
         // CHARGE, FIRE and OPEN of one cylinder: an earlier time goes before an earlier planning
         ToothWheelTimer z = timer(2, 1, 100000, 32, 10);
         Engine.lockWithTurn(z, 12, 640);
         Engine.turnRound(z, 12, 640);
-        outputs("CHARGE 1, FIRE 1, OPEN 0", z, opened(17921, 0), off(17921 - 320, 1), on(17921 - 960, 1));
+        due.outputs("CHARGE 1, FIRE 1, OPEN 0", z, Engine.opened(17921, 0), Engine.off(17921 - 320, 1), Engine.on(17921 - 960, 1));
     }
 
     /** FIRE 1 and CHARGE 3 wait for one time; FIRE 1 is planned again for that time, and so goes behind. */
@@ -334,9 +304,9 @@ public final class EventTest {
             }
             due.same("rest", x.rest(again == 1 ? 60 : 252), 2);
             if (again == 1) {
-                outputs("CHARGE 3, then FIRE 1", x, off(time, 1), on(time, 3));
+                due.outputs("CHARGE 3, then FIRE 1", x, Engine.off(time, 1), Engine.on(time, 3));
             } else {
-                outputs("FIRE 1, then CHARGE 3", x, on(time, 3), off(time, 1));
+                due.outputs("FIRE 1, then CHARGE 3", x, Engine.on(time, 3), Engine.off(time, 1));
             }
         }
     }
@@ -355,7 +325,7 @@ public final class EventTest {
         long edge = 10241 + 3200 + 330;
         due.same("rest", x.rest(54 * 330 / 64 - 1), 0);
         due.same("rest(1)", x.rest(1), 1);
-        outputs("at the new time", x, on(edge + 54 * 330 / 64, 1), -1);
+        due.outputs("at the new time", x, Engine.on(edge + 54 * 330 / 64, 1), -1);
         x.rest(200);
         due.same("not at the old one too", x.tally(2), 1);
         due.same("coil on", x.running(), 2);
@@ -448,10 +418,10 @@ public final class EventTest {
         due.same("events wait", x.waiting() > 0 ? 1 : 0, 1);
         due.same("bad edge", x.edge(320), ToothWheelTimer.LOST);
         long end = 10241 + 7680 + 1280 + 320;
-        outputs("switched off", x, closed(end, 5), closed(end, 0), off(end, 5), off(end, 4));
+        due.outputs("switched off", x, Engine.closed(end, 5), Engine.closed(end, 0), Engine.off(end, 5), Engine.off(end, 4));
         due.same("running()", x.running(), 0);
         due.same("waiting()", x.waiting(), 0);
-        tallies("ceased", x, sparks, 0, before + 4, 1);
+        due.tallies("ceased", x, sparks, 0, before + 4, 1);
         due.same("nothing later", x.rest(10000000), 0);
         ToothWheelTimer y = busy();
         due.same("gap too soon", y.edge(1280), ToothWheelTimer.COUNTING);
@@ -501,14 +471,14 @@ public final class EventTest {
         long edge = x.foretell(384);
         due.same("running()", x.running(), 1 << 1);
         due.same("rest beyond stalling", x.rest(10000), 1);
-        outputs("off at the time of stalling", x, off(edge + 3200, 1), on(edge, 1));
-        tallies("stalled", x, 0, 0, 2, 1);
+        due.outputs("off at the time of stalling", x, Engine.off(edge + 3200, 1), Engine.on(edge, 1));
+        due.tallies("stalled", x, 0, 0, 2, 1);
         due.same("waiting()", x.waiting(), 0);
         ToothWheelTimer y = new ToothWheelTimer(12, 2, 6, 100000);
         Engine.lockWithTurn(y, 12, 640);
         y.teeth(6, 640);
         y.edge(20000);
-        outputs("off at the time of stalling, not of the edge", y, off(edge + 3200, 1), on(edge, 1));
+        due.outputs("off at the time of stalling, not of the edge", y, Engine.off(edge + 3200, 1), Engine.on(edge, 1));
     }
 
     /** A CUT at just the time of stalling still counts. */
@@ -521,7 +491,7 @@ public final class EventTest {
             long edge = x.foretell(384);
             due.same("rest", x.rest(5000), 1);
             due.same("dwell " + c[0] + ": cuts", x.tally(1), c[1]);
-            outputs("dwell " + c[0], x, off(edge + Math.min(c[0], 3200), 1), on(edge, 1), -1);
+            due.outputs("dwell " + c[0], x, Engine.off(edge + Math.min(c[0], 3200), 1), Engine.on(edge, 1), -1);
             due.same("tally(3)", x.tally(3), 1);
         }
     }
@@ -583,12 +553,12 @@ public final class EventTest {
         }
         for (int k = 0; k < 16; k++) {
             long start = 10241 + (4 - k / 4) * cycle;
-            long[] want = {off(start + cycle, 0), on(start + cycle - 640, 0), closed(start + 7690, 0),
-                opened(start + 7680, 0)};
+            long[] want = {Engine.off(start + cycle, 0), Engine.on(start + cycle - 640, 0), Engine.closed(start + 7690, 0),
+                Engine.opened(start + 7680, 0)};
             due.same("output(" + k + ")", x.output(k), want[k % 4]);
         }
         due.same("output(16)", x.output(16), -1);
-        tallies("five cycles", x, 5, 0, 20, 0);
+        due.tallies("five cycles", x, 5, 0, 20, 0);
     }
 
     private static void wrongNumbers() {

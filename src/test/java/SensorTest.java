@@ -121,21 +121,15 @@ public final class SensorTest {
         }
     }
 
-    private static void fail(ToothWheelTimer x, int sensor, int times) {
-        for (int i = 0; i < times; i++) {
-            x.sample(sensor, 0);
-        }
-    }
-
     private static void frames() {
         ToothWheelTimer x = fresh();
         x.sample(0, 700);
         x.edge(100);
         x.edge(321);
         x.rest(9);
-        fail(x, 1, 2);
+        Engine.fail(x, 1, 2);
         due.same("no frame at count 2", x.frame(1, 0), -1);
-        fail(x, 1, 1);
+        Engine.fail(x, 1, 1);
         due.same("time of the code", x.frame(1, 0), 430);
         due.same("unit of the code", x.frame(1, 1), 321);
         due.same("load of the code", x.frame(1, 2), 700);
@@ -145,7 +139,7 @@ public final class SensorTest {
             due.same("frame(1, " + part + ")", x.frame(1, part), -1);
         }
         x.rest(10000000);
-        fail(x, 0, 3);
+        Engine.fail(x, 0, 3);
         due.same("time of the second code", x.frame(0, 0), 10000430);
         due.same("unit after stalling", x.frame(0, 1), 0);
         due.same("load as it is after the sample", x.frame(0, 2), 400);
@@ -155,10 +149,10 @@ public final class SensorTest {
     private static void codeIsKept() {
         ToothWheelTimer x = fresh();
         x.rest(5);
-        fail(x, 0, 3);
+        Engine.fail(x, 0, 3);
         x.rest(6);
         x.sample(0, 500);
-        fail(x, 0, 1);
+        Engine.fail(x, 0, 1);
         due.same("the first frame stays while the code is stored", x.frame(0, 0), 5);
         x.sample(0, 500);
         x.sample(0, 500);
@@ -169,14 +163,14 @@ public final class SensorTest {
 
     private static void clearing() {
         ToothWheelTimer x = fresh();
-        fail(x, 0, 3);
+        Engine.fail(x, 0, 3);
         due.same("one code", x.clear(), 1);
         due.same("none left", x.clear(), 0);
         due.same("frame after clear", x.frame(0, 0), -1);
         due.same("count after clear", x.count(0), 3);
         due.same("value after clear", x.value(0), 400);
         x.rest(70);
-        fail(x, 0, 5);
+        Engine.fail(x, 0, 5);
         due.same("no code when the count is beyond 3", x.frame(0, 0), -1);
         x.sample(0, 500);
         x.sample(0, 500);
@@ -185,9 +179,9 @@ public final class SensorTest {
         due.same("count is 3", x.count(0), 3);
         x.sample(0, 500);
         x.rest(1);
-        fail(x, 0, 1);
+        Engine.fail(x, 0, 1);
         due.same("a code again", x.frame(0, 0), 71);
-        fail(x, 1, 3);
+        Engine.fail(x, 1, 3);
         due.same("two codes", x.clear(), 2);
         due.same("count 1 after clear", x.count(1), 3);
     }
