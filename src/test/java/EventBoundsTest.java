@@ -16,6 +16,7 @@ public final class EventBoundsTest {
         beforeTheEndOfARest();
         beforeACall();
         chargeWhenOnOrOff();
+        chargeOfAnotherCylinder();
         cutAfterDwell();
         cutAndFireOfOneEdge();
         cutAndFireOfTwoEdges();
@@ -30,6 +31,8 @@ public final class EventBoundsTest {
         ceasingAtTheTimeOfStalling();
         ceasingOnlyFromLocked();
         ceasingRemovesWhatWaits();
+        ceasingRemovesItForGood();
+        ceasingRemovesEachCharge();
         due.end();
     }
 
@@ -273,6 +276,30 @@ public final class EventBoundsTest {
         due.outputs("D = 14721", y, Engine.off(CHARGED + 14721, 0), Engine.on(CHARGED, 0), -1);
     }
 
+    /** As missedSpark, half a cycle earlier with coil 1, while coil 0 goes on at 1408 and sparks at 1472. */
+    private static void chargeOfAnotherCylinder() {
+        due.sentence("CHARGE: when the coil is off: that of its cylinder");
+        long charged = START + 7040;
+        for (int dwell : new int[] {14720, 14721}) {
+            ToothWheelTimer x = Engine.timer(2, 1, dwell, 0, 0);
+            Engine.lockWithTurn(x, 12, 640);
+            x.teeth(9, 640);
+            Engine.present(x, 0, 64);
+            x.edge(1920);
+            Engine.turnRound(x, 12, 640);
+            x.cam();
+            Engine.turnRound(x, 12, 640);
+            if (dwell == 14720) {
+                due.tallies("D = 14720", x, 2, 1, 6, 0);
+                due.outputs("D = 14720", x, Engine.off(charged + 15360, 1), Engine.on(charged + 14720, 1),
+                    Engine.off(charged + 14720, 1), Engine.off(START + 14720, 0), Engine.on(START + 14080, 0));
+            } else {
+                due.tallies("D = 14721", x, 1, 1, 4, 0);
+                due.outputs("D = 14721", x, Engine.off(charged + 14721, 1), Engine.off(START + 14720, 0));
+            }
+        }
+    }
+
     private static void cutAndFireOfTwoEdges() {
         due.sentence("of equal times the one that was planned first: a CUT of an earlier cycle and FIRE");
         // D, sparks, cuts
@@ -499,5 +526,63 @@ public final class EventBoundsTest {
         due.same("COUNTING", y.state(), ToothWheelTimer.COUNTING);
         due.same("waiting() when COUNTING", y.waiting(), 0);
         due.same("rest(2000)", y.rest(2000), 0);
+    }
+
+    /** Twelve events wait, of which none comes when it is LOCKED again. */
+    private static void ceasingRemovesItForGood() {
+        due.sentence("all events that wait are removed: none comes later");
+        ToothWheelTimer x = Engine.allOn();
+        x.edge(320);
+        int sparks = x.tally(0);
+        int before = x.tally(2);
+        Engine.present(x, 0, 0);
+        Engine.present(x, 1, 0);
+        // that edge is the latest one; LOCKED again at START + 26560 + 16 * 640
+        x.edge(640);
+        x.edge(1920);
+        x.teeth(9, 640);
+        x.edge(1920);
+        x.cam();
+        long start = START + 26560 + 16 * 640;
+        due.same("foretell(0)", x.foretell(0), start);
+        x.teeth(2, 640);
+        due.same("nothing is planned yet: waiting()", x.waiting(), 0);
+        x.edge(640);
+        due.same("the CUT of coil 1 alone: waiting()", x.waiting(), 1);
+        due.outputs("coil 1 on", x, Engine.on(start + 1920, 1));
+        // 15 turns more, so that every CLOSE and CUT of before would have come; each has three sparks
+        x.teeth(6, 640);
+        x.edge(1920);
+        for (int i = 0; i < 15; i++) {
+            Engine.turnRound(x, 12, 640);
+            if (x.turn() == 0) {
+                x.cam();
+            }
+        }
+        due.yes("time", x.foretell(0) > START + 26560 + 100000);
+        due.tallies("all later ones sparked", x, sparks + 48, 0, before + 96, 1);
+    }
+
+    /** CHARGE waits 60 after tooth 5. Then the wheel is so fast that FIRE alone is planned: no coil may go on. */
+    private static void ceasingRemovesEachCharge() {
+        due.sentence("all events that wait are removed: CHARGE of each cylinder");
+        for (int c = 0; c < 6; c++) {
+            ToothWheelTimer x = Engine.timer(6, 1, 100000, Math.floorMod(256 * c - 64 - 380, 1536), 0);
+            Engine.lockWithTurn(x, 12, 640);
+            x.teeth(5, 640);
+            int before = x.tally(2);
+            due.same("CHARGE " + c + " waits", x.waiting(), 1);
+            x.edge(320);
+            x.edge(64);
+            x.edge(192);
+            x.teeth(9, 64);
+            x.edge(192);
+            x.cam();
+            Engine.turnRound(x, 12, 64);
+            Engine.turnRound(x, 12, 64);
+            due.same("CHARGE " + c + " does not come", x.tally(2), before);
+            due.same("running()", x.running(), 0);
+            due.same("waiting()", x.waiting(), 0);
+        }
     }
 }

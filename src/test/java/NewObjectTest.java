@@ -12,6 +12,7 @@ public final class NewObjectTest {
     }
 
     private static void atFirst() {
+        due.sentence("All coils are off, all injectors closed, no event waits, no code is stored");
         ToothWheelTimer x = new ToothWheelTimer(36, 6, 3, 2000);
         due.same("new state()", x.state(), ToothWheelTimer.LOST);
         due.same("new tooth()", x.tooth(), -1);
@@ -38,6 +39,7 @@ public final class NewObjectTest {
 
     /** C - 1 is the last angle that is foretold, and C is 128 for each position. */
     private static void positions() {
+        due.sentence("P is positions, but at least 12 and at most 60");
         int[][] cases = {{Integer.MIN_VALUE, 12}, {0, 12}, {11, 12}, {12, 12}, {13, 13}, {59, 59}, {60, 60}, {61, 60},
             {Integer.MAX_VALUE, 60}};
         for (int[] c : cases) {
@@ -52,6 +54,7 @@ public final class NewObjectTest {
 
     /** Every cylinder is fuelled once in a cycle, so that the openings count the cylinders. */
     private static void cylinders() {
+        due.sentence("K is cylinders, but at least 1 and at most 6");
         int[][] cases = {{Integer.MIN_VALUE, 1}, {0, 1}, {1, 1}, {2, 2}, {5, 5}, {6, 6}, {7, 6}, {Integer.MAX_VALUE, 6}};
         for (int[] c : cases) {
             ToothWheelTimer x = new ToothWheelTimer(12, c[0], 1, 1);
@@ -69,6 +72,7 @@ public final class NewObjectTest {
 
     /** With one cylinder and no advance the coil goes on 64 * Q before the angle 0. */
     private static void charge() {
+        due.sentence("Q is charge, but at least 1 and at most 8");
         int[][] cases = {{Integer.MIN_VALUE, 1}, {0, 1}, {1, 1}, {2, 2}, {7, 7}, {8, 8}, {9, 8}, {Integer.MAX_VALUE, 8}};
         for (int[] c : cases) {
             ToothWheelTimer x = Engine.lockWithTurn(new ToothWheelTimer(12, 1, c[0], 100000), 12, 640);
@@ -84,6 +88,7 @@ public final class NewObjectTest {
 
     /** A coil whose spark does not come is cut after D. */
     private static void dwell() {
+        due.sentence("D is dwell, but at least 1 and at most 100000");
         int[][] cases = {{Integer.MIN_VALUE, 1}, {0, 1}, {1, 1}, {2, 2}, {99999, 99999}, {100000, 100000},
             {100001, 100000}, {Integer.MAX_VALUE, 100000}};
         for (int[] c : cases) {
