@@ -30,6 +30,7 @@ public final class RefusalTest {
                 refuse(r, place);
             }
         }
+        askingChangesNothing();
         theWayHasAll();
         due.end();
     }
@@ -187,6 +188,26 @@ public final class RefusalTest {
                 due.same(name + ": look(" + chart + ", " + a + ", " + b + ")", got.look(chart, a, b), want.look(chart, a, b));
             }
         }
+    }
+
+    /** One timer is asked everything before each step, the other one nothing before the end. */
+    private static void askingChangesNothing() {
+        due.sentence("state(), tooth() and all other calls that only answer change nothing, nor does rest(0)");
+        ToothWheelTimer plain = timer();
+        ToothWheelTimer other = timer();
+        for (int step = 0; step < STEPS; step++) {
+            compare("asked", other, other);
+            due.same("rest(0)", other.rest(0), 0);
+            long want = go(plain, step);
+            due.same("asked before step " + step, go(other, step), want);
+        }
+        compare("asked before each step, at the end", other, plain);
+        ToothWheelTimer withoutCam = Engine.lockWithTurn(timer(), 12, 640);
+        Engine.turnRound(withoutCam, 12, 640);
+        Engine.turnRound(withoutCam, 12, 640);
+        compare("asked in turn 0", withoutCam, withoutCam);
+        Engine.turnRound(withoutCam, 12, 640);
+        due.same("asking is no cam edge: turn()", withoutCam.turn(), -1);
     }
 
     /** A way that never came to a coil that is on, or to a stored code, would show little. */
