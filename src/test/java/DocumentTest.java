@@ -6,6 +6,8 @@ public final class DocumentTest {
     private static final long START = Engine.START;
     private static final int LOCKED = ToothWheelTimer.LOCKED;
     private static final int MOST_CALLS = 512;
+    /** Nine of Engine.timer and five of Engine.lock. */
+    private static final int SETUP_CALLS = 14;
     private static final Due due = new Due();
 
     /** Tooth 4 of turn 1, when the unit is 640. */
@@ -36,6 +38,7 @@ public final class DocumentTest {
         planningBeforeFiring();
         limitWhenPlanned();
         limitOfAFasterWheel();
+        limitOfEachCylinder();
         limitOfAFailedSensor();
         sampleBeforeAndLatest();
         frameStays();
@@ -47,7 +50,7 @@ public final class DocumentTest {
     private static ToothWheelTimer used(int calls) {
         ToothWheelTimer x = Engine.timer(1, 1, 100000, 0, 100);
         Engine.lock(x, 12, 640);
-        int made = 13;
+        int made = SETUP_CALLS;
         for (; made + 5 <= calls; made += 5) {
             x.cam();
             Engine.turnRound(x, 12, 640);
@@ -62,7 +65,7 @@ public final class DocumentTest {
     private static void lastCall() {
         due.sentence("An object is used for at most 512 calls after it has been made");
         int before = MOST_CALLS - 1;
-        int cycles = (before - 13) / 5;
+        int cycles = (before - SETUP_CALLS) / 5;
         long now = START + cycles * 15360L;
         due.same("state()", used(before).state(), LOCKED);
         due.same("tooth()", used(before).tooth(), 0);
@@ -540,6 +543,26 @@ public final class DocumentTest {
         due.outputs("CHARGE", x, Engine.on(fourth + 82, 0));
         due.same("rest(5)", x.rest(5), 1);
         due.outputs("OPEN", x, Engine.opened(fourth + 87, 1));
+    }
+
+    private static void limitOfEachCylinder() {
+        due.sentence("for each cylinder c: but CHARGE and OPEN are not when u is below the LIMIT");
+        for (int u = 99; u <= 100; u++) {
+            ToothWheelTimer x = new ToothWheelTimer(12, 6, 1, 1);
+            Engine.level(x, 1, 5);
+            Engine.lockWithTurn(x, 12, u);
+            int seen = 0;
+            for (int i = 0; i < 24; i++) {
+                x.edge(x.tooth() == 9 ? 3 * u : u);
+                if (x.turn() == 0) {
+                    x.cam();
+                }
+                for (int k = 0; k < 6; k++) {
+                    seen |= x.output(k) < 0 ? 0 : 1 << (x.output(k) % 32 / 2);
+                }
+            }
+            due.same("u = " + u + ": coils and injectors that were switched", seen, u == 99 ? 0 : 63 + 63 * 256);
+        }
     }
 
     /** A hot sample, but the sensor has failed: H is 80. When it is well again, H is what it was. */

@@ -190,18 +190,23 @@ public final class RefusalTest {
         }
     }
 
-    /** One timer is asked everything before each step, the other one nothing before the end. */
+    /** One timer is asked everything at one place of the way, the other one nothing before the end. */
     private static void askingChangesNothing() {
         due.sentence("state(), tooth() and all other calls that only answer change nothing, nor does rest(0)");
-        ToothWheelTimer plain = timer();
-        ToothWheelTimer other = timer();
-        for (int step = 0; step < STEPS; step++) {
-            compare("asked", other, other);
-            due.same("rest(0)", other.rest(0), 0);
-            long want = go(plain, step);
-            due.same("asked before step " + step, go(other, step), want);
+        for (int place = 0; place < STEPS; place++) {
+            ToothWheelTimer plain = timer();
+            ToothWheelTimer other = timer();
+            String name = "asked before step " + place;
+            for (int step = 0; step < STEPS; step++) {
+                if (step == place) {
+                    compare(name, other, other);
+                    due.same(name + ": rest(0)", other.rest(0), 0);
+                }
+                long want = go(plain, step);
+                due.same(name + ", step " + step, go(other, step), want);
+            }
+            compare(name + ", at the end", other, plain);
         }
-        compare("asked before each step, at the end", other, plain);
         ToothWheelTimer withoutCam = Engine.lockWithTurn(timer(), 12, 640);
         Engine.turnRound(withoutCam, 12, 640);
         Engine.turnRound(withoutCam, 12, 640);
