@@ -33,6 +33,7 @@ public final class DocumentTest {
         amountOfTheUnit();
         amountAfterOpening();
         notDueAnyMore();
+        manyInOneRest();
         beforeACamEdge();
         advanceAfterTheEdge();
         planningBeforeFiring();
@@ -429,6 +430,29 @@ public final class DocumentTest {
         due.same("rest(99)", x.rest(99), 0);
         due.same("rest(1)", x.rest(1), 1);
         due.outputs("CHARGE", x, Engine.on(FOURTH + 500, 0), -1);
+    }
+
+    /** All is on, the turn is not known, and the wheel slows down: what waits comes before it stalls, 25565 later. */
+    private static void manyInOneRest() {
+        due.sentence("They fire in the order of their times: all in one call");
+        ToothWheelTimer x = Engine.allOn(30000);
+        x.cam();
+        x.edge(1279);
+        x.edge(2557);
+        x.edge(5113);
+        due.same("injector 4 is closed: running()", x.running(), 63 + 47 * 256);
+        due.same("waiting()", x.waiting(), 11);
+        due.same("rest(25000)", x.rest(25000), 11);
+        due.same("LOCKED still", x.state(), LOCKED);
+        long again = START + 15360 + 30000;
+        due.outputs("five CLOSE and six CUT", x, Engine.off(again + 10880, 0), Engine.off(again + 8960, 5),
+            Engine.off(again + 7040, 4), Engine.off(again + 5120, 3), Engine.off(again + 3840, 2),
+            Engine.closed(START + 15360 + 32000, 3), Engine.off(again + 1920, 1), Engine.closed(START + 12800 + 32000, 2),
+            Engine.closed(START + 10240 + 32000, 1), Engine.closed(START + 7680 + 32000, 0),
+            Engine.closed(START + 5120 + 32000, 5), Engine.closed(START + 2560 + 32000, 4));
+        due.same("six cuts", x.tally(1), 6);
+        due.same("running()", x.running(), 0);
+        due.same("waiting()", x.waiting(), 0);
     }
 
     private static void beforeACamEdge() {

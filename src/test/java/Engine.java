@@ -68,8 +68,8 @@ final class Engine {
      * All six coils on and all six injectors open. The fuel lasts for two cycles; in the second of them each coil, when
      * it is on, misses its FIRE by an advance that grows. Ends at tooth 5 of turn 1, START + 26240.
      */
-    static ToothWheelTimer allOn() {
-        ToothWheelTimer x = timer(6, 1, 100000, 0, 32000);
+    static ToothWheelTimer allOn(int dwell) {
+        ToothWheelTimer x = timer(6, 1, dwell, 0, 32000);
         lockWithTurn(x, 12, 640);
         turnRound(x, 12, 640);
         turnRound(x, 12, 640);
@@ -87,6 +87,10 @@ final class Engine {
         present(x, 0, 384);
         x.teeth(3, 640);
         return x;
+    }
+
+    static ToothWheelTimer allOn() {
+        return allOn(100000);
     }
 
     /** So many failing samples of a sensor. */
